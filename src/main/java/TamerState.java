@@ -499,7 +499,7 @@ public final class TamerState {
             s = drawnFrom(s);
             int province = s % provinces;
             s = drawnFrom(s);
-            if (s % 3 == 0 && crackedOnPaper(scene, tamer, province) == BITES) {
+            if (s % 3 == 0 && bitesOnPaper(scene, tamer, province)) {
                 bites++;
             }
             if (s % 3 == 1) {
@@ -630,29 +630,31 @@ public final class TamerState {
         return now.scene.addProvince(hunger, temper, tub) != NONE;
     }
 
+    private boolean mayCrack(Scene scene, int tamer, int province) {
+        return scene.get(Scene.ARMS, tamer) >= 1 && !rules.barred(scene, now.lawInForce(), tamer, province);
+    }
+
     private int cracked(int tamer, int province) {
         Scene scene = now.scene;
         if (!scene.hasTamer(tamer) || !scene.hasProvince(province)) {
             return NO_SUCH;
         }
-        Program law = now.lawInForce();
-        if (scene.get(Scene.ARMS, tamer) < 1 || rules.barred(scene, law, tamer, province)) {
+        if (!mayCrack(scene, tamer, province)) {
             return CANNOT_BE;
         }
         log.keep(scene, ACT_CRACK);
-        int did = rules.reaction(scene, law, tamer, province);
+        int did = rules.reaction(scene, now.lawInForce(), tamer, province);
         scene.react(did, tamer, province);
         return did;
     }
 
-    private int crackedOnPaper(Scene scene, int tamer, int province) {
-        Program law = now.lawInForce();
-        if (scene.get(Scene.ARMS, tamer) < 1 || rules.barred(scene, law, tamer, province)) {
-            return NONE;
+    private boolean bitesOnPaper(Scene scene, int tamer, int province) {
+        if (!mayCrack(scene, tamer, province)) {
+            return false;
         }
-        int did = rules.reaction(scene, law, tamer, province);
+        int did = rules.reaction(scene, now.lawInForce(), tamer, province);
         scene.react(did, tamer, province);
-        return did;
+        return did == BITES;
     }
 
     private int fed(int tamer, int province) {
@@ -1873,6 +1875,7 @@ public final class TamerState {
         private final Rules rules;
         private final Scene paper = new Scene();
         private final int[] stages = new int[MAX_PROVINCES * Scene.SIZE];
+        private final int[] turns = new int[MAX_PROVINCES * (TOP_TEMPER + 1)];
         private final int[] row = new int[MAX_PROVINCES];
         private final int[] bestRow = new int[MAX_PROVINCES];
         private final int[] may = new int[MAX_PROVINCES];
@@ -1894,14 +1897,35 @@ public final class TamerState {
         }
 
         int findShow(World world, int t, int told) {
+            for (int p = 0; p < MAX_PROVINCES; p++) {
+                if ((told >> p & 1) != 0) {
+                    tellTurns(world, t, p);
+                }
+            }
             paper.copyFrom(world.scene);
             int tooMany = MAX_PROVINCES + 1;
             best = tooMany;
-            act(world.lawInForce(), t, told, 0, 0);
+            act(t, told, 0, 0);
             return best == tooMany ? NONE : best;
         }
 
-        private void act(Program law, int t, int left, int depth, int balks) {
+        /** Before its turn a show changes nothing of a province but its temper, so each temper is asked once. */
+        private void tellTurns(World world, int t, int p) {
+            Program law = world.lawInForce();
+            paper.copyFrom(world.scene);
+            for (int temper = 0; temper <= TOP_TEMPER; temper++) {
+                paper.set(Scene.TEMPER, p, temper);
+                boolean barred = rules.barred(paper, law, t, p);
+                turns[p * (TOP_TEMPER + 1) + temper] = barred ? BITES : rules.reaction(paper, law, t, p);
+            }
+        }
+
+        private int turnOf(int p) {
+            int turn = p * (TOP_TEMPER + 1) + paper.get(Scene.TEMPER, p);
+            return turn >= 0 && turn < turns.length ? turns[turn] : BITES;
+        }
+
+        private void act(int t, int left, int depth, int balks) {
             if (left == 0) {
                 keepRow(balks);
                 return;
@@ -1911,17 +1935,14 @@ public final class TamerState {
             }
             paper.saveTo(stages, depth);
             for (int p = 0; p < MAX_PROVINCES; p++) {
-                if ((left >> p & 1) == 0 || rules.barred(paper, law, t, p)) {
-                    continue;
-                }
-                int did = rules.reaction(paper, law, t, p);
+                int did = turnOf(p);
                 int balksThen = did == BALKS ? balks + 1 : balks;
-                if (did == BITES || balksThen >= best) {
+                if ((left >> p & 1) == 0 || did == BITES || balksThen >= best) {
                     continue;
                 }
                 row[depth] = p;
                 paper.react(did, t, p);
-                act(law, t, left & ~(1 << p), depth + 1, balksThen);
+                act(t, left & ~(1 << p), depth + 1, balksThen);
                 paper.loadFrom(stages, depth);
             }
         }
