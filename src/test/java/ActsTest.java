@@ -69,6 +69,7 @@ public final class ActsTest {
     private static void bites(Check check) {
         TamerState x = ring(3, 0);
         check.due("crack", x.crack(0, 1), 0);
+        check.due("a bite is not REFUSED", x.status(), 0);
         tempers(check, x, 3, 3, 3, 3);
         check.due("0 at least", x.of(1, 0), 0);
         check.due("arms", x.at(0, 2), 1);

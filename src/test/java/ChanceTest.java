@@ -15,6 +15,7 @@ public final class ChanceTest {
     private static void safe(Check check) {
         TamerState x = new TamerState();
         check.due("safe(1, 0)", x.safe(1, 0), WHOLE);
+        check.due("safe(20, 0)", x.safe(20, 0), WHOLE);
         check.due("safe(1, 1)", x.safe(1, 1), 900000000000L);
         check.due("safe(2, 1)", x.safe(2, 1), WHOLE);
         check.due("safe(1, 2)", x.safe(1, 2), 810000000000L);
@@ -145,6 +146,11 @@ public final class ChanceTest {
             check.due("decades that can't be", x.decades(w[0], w[1]), -1);
         }
         check.due("the latest that was not REFUSED", x.drawn(0, 2), kept);
+        x.tamer(1, 2);
+        x.decades(0, 1);
+        check.holds("more tamers than provinces", x.drawn(1, 2) > 0 && x.drawn(1, 3) == 2);
+        check.due("no such province", x.drawn(1, 0), -1);
+        check.due("no such province", x.drawn(1, 1), -1);
         TamerState y = new TamerState();
         y.tamer(1, 1);
         check.due("no provinces", y.decades(0, 1), -3);

@@ -4,6 +4,7 @@ public final class ImageTest {
         Check check = new Check("ImageTest");
         images(check);
         whatIsNotKept(check);
+        deedsOfImages(check);
         lawsOfImages(check);
         counts(check);
         statuses(check);
@@ -101,6 +102,24 @@ public final class ImageTest {
         check.due("an image takes nothing from undoing", x.undo(), 3);
     }
 
+    private static void deedsOfImages(Check check) {
+        TamerState x = new TamerState();
+        x.province(0, 0, 0);
+        x.province(0, 0, 1);
+        x.tamer(3, 0);
+        x.done(1, 0, 0, 2);
+        x.done(1, 0, 1, 2);
+        x.image(0);
+        x.forget();
+        x.done(1, 0, 1, 0);
+        x.done(2, 0, 1, 1);
+        check.due("one(-1)", x.one(-1), 0);
+        x.back(0);
+        check.due("one(-1)", x.one(-1), 1);
+        check.due("tempers(0)", x.tempers(0), 15);
+        check.due("tempers(1)", x.tempers(1), 15);
+    }
+
     private static void lawsOfImages(Check check) {
         TamerState x = new TamerState();
         x.province(0, 0, 0);
@@ -115,6 +134,15 @@ public final class ImageTest {
         x.back(1);
         check.due("in force", x.count(12), 1);
         check.due("law 1 as it was", x.of(0, 3), 2);
+        TamerState y = new TamerState();
+        y.province(0, 0, 0);
+        y.image(0);
+        Check.forced(y, "hungers 4");
+        y.image(1);
+        y.back(0);
+        Check.forced(y, "hungers 5");
+        y.back(1);
+        check.due("law 0 as it was", y.of(0, 3), 4);
     }
 
     private static void counts(Check check) {

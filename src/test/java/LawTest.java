@@ -61,7 +61,10 @@ public final class LawTest {
         Object[][] laws = {
             {"", 0}, {"     ", 5}, {"angers", 6}, {"angers   ", 9}, {"  angers", 8}, {"Angers 1", 0}, {"angerss 1", 0},
             {"angers 1;", 9}, {"angers 1; ", 10}, {";angers 1", 0}, {"angers 1 2", 9}, {"angers 1 hungers 2", 9},
-            {"angers 1001", 7}, {"angers 99999999999999999999999999", 7}, {"angers -1", 7}, {"angers (1)", 7},
+            {"angers 1001", 7}, {"angers 10000", 7}, {"angers 10001", 7}, {"angersz 1", 0}, {"angers az 1", 7},
+            {"angers [", 8}, {"angers 1*", 9}, {"angers 1 if (", 13}, {"angers 1 if [", 13}, {"angers 1 if 1=", 14},
+            {"angers 1 if 1=1 and", 19}, {"angers 1 if (1=1 or", 19}, {"angers [1+", 10}, {"angers [1*", 10},
+            {"angers 99999999999999999999999999", 7}, {"angers -1", 7}, {"angers (1)", 7},
             {"angers [1", 9}, {"angers [1)", 9}, {"angers []", 8}, {"angers 1+", 9}, {"angers 1+*2", 9},
             {"angers 1 if", 11}, {"angers 1 if 1", 13}, {"angers 1 if 1+1", 15}, {"angers 1 if [1=1]", 14},
             {"angers 1 if (1=1", 16}, {"angers 1 if (1)", 14}, {"angers 1 if 1=1=1", 15}, {"angers 1 if 1<=1", 14},
@@ -109,7 +112,12 @@ public final class LawTest {
         check.due("at the 9th", x.fault(), deep.length());
         check.due("nine of one kind", Check.law(x, "bars if " + "(".repeat(9) + "1=1" + ")".repeat(9)), -6);
         check.due("at the 9th", x.fault(), 16);
-        check.due("nine, not within one another", Check.law(x, "angers " + "[1]+".repeat(9) + "1"), 3);
+        check.due("eight of one kind", Check.law(x, "angers [[[[[[[[1]]]]]]]]"), 3);
+        check.due("nine of one kind", Check.law(x, "angers [[[[[[[[[1]]]]]]]]]"), -6);
+        check.due("at the 9th", x.fault(), 15);
+        x.image(0);
+        check.due("nine, not within one another", Check.law(x, "angers " + "[1]+".repeat(9) + "1"), 4);
+        x.back(0);
         check.due("many nots", Check.law(x, "bars if " + "not ".repeat(97) + "1=2"), 4);
         x.force(4);
         x.province(0, 0, 0);
@@ -177,7 +185,7 @@ public final class LawTest {
             check.due(test, sum("3 if " + test), 3);
         }
         String[] not = {
-            "1=2", "2<1", "1<1", "1>1", "1>2", "not 1=1", "1=2 or 1=2", "1=1 and 1=2", "1=2 and 1=1",
+            "1=2", "2<1", "1<1", "not 1<2", "not 2>1", "1>1", "1>2", "not 1=1", "1=2 or 1=2", "1=1 and 1=2", "1=2 and 1=1",
             "(1=1 or 1=2) and 1=2", "not 1=1 or 1=2", "not (1=1 or 1=2)", "1/0=1 or 1=1", "1/0=1 and 1=2",
             "1=2 or 1/0=1", "1=1 and 1/0=1", "1=2 and 1/0=1", "1=1 and (1=2 or 1/0=1)", "not (1/0=1 and 1=2)",
         };

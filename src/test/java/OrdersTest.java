@@ -103,6 +103,18 @@ public final class OrdersTest {
         for (String test : so) {
             check.due(test, Check.orders(x, "move 1 to 6 if " + test + ";move 1 to 1 if done=1"), 2);
         }
+        TamerState full = new TamerState();
+        for (int p = 0; p < 6; p++) {
+            full.province(p, 9 - p, p);
+        }
+        for (int t = 0; t < 4; t++) {
+            full.tamer(20, 30 + t);
+        }
+        for (int n = 0; n < 6; n++) {
+            String of = "hunger " + n + "=" + n + " and temper " + n + "=" + (9 - n);
+            String by = n < 4 ? " and meat " + n + "=" + (30 + n) + " and arms " + n + "=2" : "";
+            check.due(of + by, Check.orders(full, "move 0 to 7 if " + of + by + ";move 0 to 0 if done = 1"), 2);
+        }
         check.due("latest", Check.orders(x, "crack 0 at 0;pass if latest=2;crack 0 at 1;pass if latest=1 and done=3"), 4);
         check.due("latest is of this text", Check.orders(x, "pass if latest=0-1;feed 0 to 0;pass if latest=0-1"), 3);
         check.due("a bite", Check.orders(x, "crack 1 at 0;pass if latest=0;pass if arms 1=1"), 3);

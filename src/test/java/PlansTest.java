@@ -86,6 +86,21 @@ public final class PlansTest {
         y.crack(0, 0);
         y.crack(0, 0);
         check.due("arms aside", y.show(0, 2, -1), 0);
+        TamerState z = new TamerState();
+        for (int p = 0; p < 6; p++) {
+            z.province(0, p == 0 ? 0 : 9, p);
+        }
+        z.tamer(0, 0);
+        Check.forced(z, "angers 3");
+        check.due("all balk", z.show(0, 63, -1), 6);
+        row(check, "all", new int[] {z.show(0, 63, 0), z.show(0, 63, 3), z.show(0, 63, 5), z.show(0, 63, 6)}, 0, 3, 5, -1);
+        Check.forced(z, "angers 4 if tub = 5");
+        check.due("the last bites", z.show(0, 63, -1), -1);
+        check.due("the first alone", z.show(0, 1, 0), 0);
+        Check.forced(z, "angers 4 if temper > 8;angers 0 if temper < 9");
+        check.due("0 ahead of 1, 1 ahead of 2", z.show(0, 63, -1), 0);
+        row(check, "all", new int[] {z.show(0, 63, 0), z.show(0, 63, 1), z.show(0, 63, 4), z.show(0, 63, 5)}, 0, 1, 4, 5);
+        check.due("not without 0", z.show(0, 62, -1), -1);
     }
 
     private static void leastMeat(Check check) {
@@ -102,6 +117,8 @@ public final class PlansTest {
         // 18; 6 + 9 - 1, 3 + 9 - 2, 0 + 9 - 3, 9 - 4, 9 - 5 = 4
         check.due("least(0, 3)", x.least(0, 3), 5);
         check.due("together, meat aside", x.least(0, 0), 6);
+        // 4: 0 + 2 - 1, 2 - 2; 8: 1 + 4 - 1, 0 + 4 - 2, 4 - 3, 4 - 4
+        row(check, "by 0", new int[] {x.least(1, 1), x.least(1, 2), x.least(1, 0)}, 2, 4, 2 + 4 + 9);
         check.due("by 9 at most", x.least(1, 3), 9);
         check.due("no province 3", x.least(0, 4), -1);
         check.due("what -1", x.least(0, -1), -1);

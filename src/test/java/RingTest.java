@@ -8,6 +8,7 @@ public final class RingTest {
         whatALawChanges(check);
         feuds(check);
         terms(check);
+        aFullRing(check);
         check.close();
     }
 
@@ -132,6 +133,36 @@ public final class RingTest {
         x.force(-1);
         check.due("hungers without", x.of(1, 3), 1);
         check.due("paid without", x.at(0, 3), 5);
+    }
+
+    private static void aFullRing(Check check) {
+        TamerState x = new TamerState();
+        for (int p = 0; p < 6; p++) {
+            x.province(p + 1, 9 - p, 7 - p);
+        }
+        for (int t = 0; t < 4; t++) {
+            x.tamer(15 + t, 90 + t);
+        }
+        for (int t = 0; t < 4; t++) {
+            for (int p = 0; p < 6; p++) {
+                for (int times = 0; times < (t + p) % 3; times++) {
+                    x.meat(t, p);
+                }
+            }
+        }
+        for (int p = 0; p < 6; p++) {
+            check.due("of(" + p + ", 1)", x.of(p, 1), 9 - p);
+            check.due("of(" + p + ", 2)", x.of(p, 2), 7 - p);
+            check.due("of(" + p + ", 0)", x.of(p, 0), 0);
+        }
+        for (int t = 0; t < 4; t++) {
+            check.due("at(" + t + ", 0)", x.at(t, 0), 15 + t);
+            check.due("at(" + t + ", 1)", x.at(t, 1), 90 + t - 6);
+            check.due("at(" + t + ", 2)", x.at(t, 2), 2);
+            for (int p = 0; p < 6; p++) {
+                check.due("asks(" + t + ", " + p + ", 0)", x.asks(t, p, 0), (t + p) % 3);
+            }
+        }
     }
 
     private static void feuds(Check check) {

@@ -59,6 +59,12 @@ public final class TapeTest {
         Check.writeBytes(x, new byte[] {1, 1, 7});
         check.due("row()", x.row(), 1);
         check.due("saucers()", x.saucers(), 0);
+        for (int n = 1; n < 3; n++) {
+            x.feed(0x01010600, 0, 0, 0, 0);
+            x.end(n);
+            check.due("bytes behind the end are none", x.row(), 0);
+            check.due("saucers()", x.saucers(), 1);
+        }
     }
 
     private static void rowsAndRoom(Check check) {
