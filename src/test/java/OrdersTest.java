@@ -53,9 +53,13 @@ public final class OrdersTest {
         check.due("thirteen", Check.orders(x, twelve + ";pass"), -6);
         check.due("at the 13th's first token", x.fault(), twelve.length() + 1);
         String fifty = "pass times 20 if hunger 0" + "+hunger 0".repeat(20) + "+1".repeat(28) + "=";
+        String fortyEight = fifty.replaceFirst("hunger 0\\+hunger 0\\+", "");
         check.due("fifty parts; P, TIMES aside", Check.orders(x, fifty + "done"), 0);
         check.due("fifty-one", Check.orders(x, fifty + "done+hunger 9"), -6);
         check.due("at the 51st's word", x.fault(), fifty.length() + 5);
+        for (int n = 0; n < 12; n++) {
+            check.due("long texts, one behind the other", Check.orders(x, fortyEight + "1000;pass if day > 500"), 0);
+        }
         check.due("a right text has no fault", Check.orders(x, "pass times 020"), 20);
         check.due("fault()", x.fault(), -1);
     }

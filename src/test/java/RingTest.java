@@ -163,6 +163,13 @@ public final class RingTest {
                 check.due("asks(" + t + ", " + p + ", 0)", x.asks(t, p, 0), (t + p) % 3);
             }
         }
+        x.pass();
+        for (int n = 0; n < 4; n++) {
+            check.due("a day later of(" + n + ", 0)", x.of(n, 0), 1);
+            check.due("a day later of(" + n + ", 1)", x.of(n, 1), 9 - n);
+            check.due("a day later at(" + n + ", 1)", x.at(n, 1), 90 + n - 6 + 5);
+            check.due("a day later at(" + n + ", 2)", x.at(n, 2), 2);
+        }
     }
 
     private static void feuds(Check check) {
