@@ -3,6 +3,7 @@ import java.nio.charset.StandardCharsets;
 /** What the tests share: answers against those that are due, and texts onto the tape. */
 final class Check {
     private final String test;
+    private String sentence = "";
     private int asked;
     private int wrong;
 
@@ -14,8 +15,25 @@ final class Check {
         asked++;
         if (got != want) {
             wrong++;
-            System.out.println(test + ": " + call + " answered " + got + ", due is " + want);
+            System.out.println(test + ": " + sentence + call + " answered " + got + ", due is " + want);
         }
+    }
+
+    /** What is asked from here on is due by these words of a part of the document; they must stand there. */
+    void of(String part, String words) {
+        sentence = part + ", \"" + words + "\": ";
+        holds("it stands in the document", Document.has(part, words));
+    }
+
+    void row(String what, int[] got, int... want) {
+        due(what + ", how long", got.length, want.length);
+        for (int i = 0; i < want.length && i < got.length; i++) {
+            due(what + ", " + i, got[i], want[i]);
+        }
+    }
+
+    void same(String what, String got, String want) {
+        holds(what + ": " + got + " is " + want, got.equals(want));
     }
 
     void holds(String what, boolean is) {
