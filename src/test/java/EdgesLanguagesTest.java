@@ -339,7 +339,8 @@ public final class EdgesLanguagesTest {
         x.undo();
         check.due("a jump", Check.orders(x, "crack 0 at 0;pass if latest=2"), 2);
         x.undo();
-        check.due("of this text alone", Check.orders(x, "pass if latest=2;pass if latest=0-1"), 1);
+        check.due("not of the text ahead", Check.orders(x, "pass if latest=2"), 0);
+        check.due("of this text alone", Check.orders(x, "pass if latest=0-1"), 1);
         x.undo();
         check.due("a balk", Check.orders(x, "crack 0 at 1;pass if latest=1"), 2);
         x.undo();
@@ -425,6 +426,7 @@ public final class EdgesLanguagesTest {
     private static void allAsItWas(Check check) {
         check.of(PART, "all is as it was ahead of it");
         TamerState x = Ring.of("5 5 0, 5 5 1", "20 50, 4 9");
+        String first = Ring.kept(x);
         x.meat(1, 0);
         x.pass();
         String ahead = Ring.kept(x);
@@ -434,6 +436,7 @@ public final class EdgesLanguagesTest {
         check.same("all", Ring.kept(x), ahead);
         check.due("what can be undone", x.count(5), 2);
         check.row("and how", new int[] {x.undo(), x.undo(), x.undo()}, 3, 1, -3);
+        check.same("undone to the first", Ring.kept(x), first);
         check.due("the same without it", Check.orders(x, many), 26);
         check.due("what can be undone", x.count(5), 16);
     }

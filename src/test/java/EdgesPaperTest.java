@@ -131,6 +131,7 @@ public final class EdgesPaperTest {
         check.row("the lower first", show(Ring.of("0 0 0, 0 1 1", "0 0"), 3), 0, 0, 1, -1);
         check.row("the higher first", show(Ring.of("0 1 0, 0 0 1", "0 0"), 3), 0, 1, 0, -1);
         check.row("all orders alike", show(Ring.of("0 0 0, 0 0 3, 0 0 6", "0 0"), 7), 0, 0, 1, 2, -1);
+        check.row("temper 9 and 0", show(Ring.of("0 9 0, 0 0 4", "9 0"), 3), 0, 0, 1, -1);
         check.row("both balk whatever the order", show(Ring.of("0 1 0, 0 1 4", "0 0"), 3), 2, 0, 1, -1);
         TamerState six = forced(Ring.of("0 0 0, 0 0 1, 0 0 2, 0 0 3, 0 0 4, 0 0 5", "0 0"), "angers 3");
         check.row("all six balk", show(six, 63), 6, 0, 1, 2, 3, 4, 5, -1);
@@ -302,6 +303,10 @@ public final class EdgesPaperTest {
         check.row("barred", governed(forced(Ring.of("3 3 0", "6 0"), "bars")), 0, 100);
         check.row("by who is not", governed(forced(Ring.of("3 3 0", "6 0, 6 0"), "bars if tamer=0")), 1, 1);
         check.row("arms aside", governed(bittenTwice()), 1, 0, 100);
+        TamerState x = Ring.of("3 3 0, 3 3 1", "6 0");
+        check.row("both", governed(x), 2, 0, 0);
+        check.row("both asked again by a law", governed(forced(x, "angers 7 if province=0")), 1, 100, 0);
+        check.row("none", governed(forced(x, "bars")), 0, 100, 100);
     }
 
     /** Tamer 0 has no arms; province 0 is loyal to it. */
@@ -354,6 +359,8 @@ public final class EdgesPaperTest {
         check.row("two days, both", cubs(x, 2), 2, 0, 1);
         check.row("none is better", cubs(forced(Ring.of("5 0 0", "0 0"), "angers memory"), 2), 1, 100, 100);
         check.row("no provinces", cubs(Ring.of("", "0 0"), 4), 0, 100, 100, 100, 100);
+        check.row("both asked again by a law", cubs(forced(x, "angers 5 if province=0"), 2), 1, 0, 1);
+        check.row("none is loyal", cubs(forced(x, "angers 5"), 2), 0, 0, 0);
     }
 
     private static void cubsHunger(Check check) {
@@ -409,6 +416,10 @@ public final class EdgesPaperTest {
         // 9 of 10 is whole twelve times: 282,429,536,481; then 254,186,582,832.9
         check.due("12 days", x.safe(1, 12), 282429536481L);
         check.due("13 days", x.safe(1, 13), 254186582832L);
+        // of twice in 13 days one part is cut by .4, the other by .8: each by itself, not both together
+        check.due("13 days, fewer than 3", x.safe(3, 13), 866117245206L);
+        check.due("15 days, fewer than 2", x.safe(2, 15), 549043018915L);
+        check.due("99 days, fewer than 20", x.safe(20, 99), 998255635351L);
         x.terms(1, 9);
         check.due("1 of 10 twelve times", x.safe(1, 12), 1);
         check.due("and a thirteenth", x.safe(1, 13), 0);

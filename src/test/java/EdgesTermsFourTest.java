@@ -17,6 +17,7 @@ public final class EdgesTermsFourTest {
         saucersAtTheEnd(check);
         saucersWithoutRoom(check);
         images(check);
+        imagesOfLaws(check);
         imagesDoNotKeep(check);
         nothingToUndo(check);
         imagesStay(check);
@@ -221,15 +222,32 @@ public final class EdgesTermsFourTest {
         x.province(0, 0, 0);
         x.tamer(0, 0);
         x.feud(0, 2, 1);
+        x.forget();
         x.done(2, 2, 2, 0);
+        x.done(3, 0, 0, 0);
         x.crack(0, 1);
         forced(x, "pays 2");
         check.due("image(1)", x.image(1), 0);
         String second = Ring.kept(x);
         check.due("back(0)", x.back(0), 0);
         check.same("the first", Ring.kept(x), first);
+        check.due("another law 1", Check.forced(x, "pays 9;hungers 9"), 1);
         check.due("back(1)", x.back(1), 0);
         check.same("the second", Ring.kept(x), second);
+    }
+
+    private static void imagesOfLaws(Check check) {
+        check.of(PART, "BACK to one all that it keeps is as it was then");
+        TamerState x = Ring.of("0 0 0", "0 0");
+        x.image(0);
+        forced(x, "hungers 4");
+        x.image(1);
+        x.back(0);
+        check.row("no law", new int[] {x.count(4), x.count(12), x.of(0, 3)}, 0, -1, 1);
+        forced(x, "hungers 5");
+        check.row("another law 0", new int[] {x.count(4), x.count(12), x.of(0, 3)}, 1, 0, 5);
+        x.back(1);
+        check.row("law 0 as it was then", new int[] {x.count(4), x.count(12), x.of(0, 3)}, 1, 0, 4);
     }
 
     private static void imagesDoNotKeep(Check check) {

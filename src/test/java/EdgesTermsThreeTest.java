@@ -92,6 +92,9 @@ public final class EdgesTermsThreeTest {
         check.row("tempers", Ring.tempers(x), 9, 9, 9, 5, 5);
         check.due("it balks", x.crack(0, 0), 1);
         check.row("tempers", Ring.tempers(x), 9, 9, 9, 5, 5);
+        TamerState y = Ring.of("0 1 3, 0 0 2, 0 5 4, 0 5 5", "0 0");
+        check.due("it balks", y.crack(0, 0), 1);
+        check.row("one more", Ring.tempers(y), 2, 1, 6, 5);
     }
 
     private static void bites(Check check) {
