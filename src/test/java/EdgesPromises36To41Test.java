@@ -101,7 +101,9 @@ public final class EdgesPromises36To41Test {
     private static void count(Check check) {
         check.of("Promise 40", "0 PROVINCES, 1 TAMERS, 2 ARMS of all, 3 DONE, 4 LAWS, 5 how many can be undone, "
             + "6 bytes of the TAPE");
-        TamerState x = Ring.of("9 9 0, 9 9 1, 9 9 2, 9 9 3, 9 9 4, 9 9 5", "0 0, 0 0, 0 0, 0 0");
+        TamerState x = Ring.of("9 9 0, 9 9 1, 9 9 2, 9 9 3, 9 9 4, 9 9 5", "0 7, 0 7, 0 7, 0 7");
+        x.meat(0, 0);
+        x.terms(2, 0);
         for (int n = 0; n < 6; n++) {
             Check.law(x, "bars");
         }

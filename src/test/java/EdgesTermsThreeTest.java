@@ -20,6 +20,7 @@ public final class EdgesTermsThreeTest {
         dayPay(check);
         askedAhead(check);
         nextDay(check);
+        fullRing(check);
         check.close();
     }
 
@@ -216,5 +217,22 @@ public final class EdgesTermsThreeTest {
         check.due("day 999", x.pass(), -3);
         check.same("all as it was", Ring.all(x), ahead);
         check.due("in an empty ring", new TamerState().pass(), 1);
+    }
+
+    private static void fullRing(Check check) {
+        check.of(PART, "TEMPER of those on both TUBS beside it one less");
+        TamerState x = Ring.of("0 0 5, 0 2 1, 0 0 2, 0 4 3, 0 4 4, 6 3 7", "1 3, 2 4, 3 5, 4 6");
+        x.terms(2, 4);
+        check.due("in a full ring", x.crack(0, 2), 2);
+        check.row("tubs", Ring.tubs(x), 5, 1, 2, 3, 4, 7);
+        check.row("tempers", Ring.tempers(x), 0, 1, 0, 3, 4, 3);
+        check.row("hunger", Ring.hungers(x), 0, 0, 1, 0, 0, 6);
+        x.pass();
+        check.row("hunger behind a day", Ring.hungers(x), 1, 1, 2, 1, 1, 7);
+        check.row("tempers behind a day", Ring.tempers(x), 0, 1, 0, 3, 4, 3);
+        check.row("terms behind a day", new int[] {x.count(13), x.count(14), x.count(15)}, 1, 1, 4);
+        for (int t = 0; t < 4; t++) {
+            check.row("tamer " + t, new int[] {x.at(t, 0), x.at(t, 1), x.at(t, 2)}, 1 + t, 8 + t, 2);
+        }
     }
 }
