@@ -9,6 +9,7 @@ public final class EdgesTermsTwoTest {
         letters(check);
         digits(check);
         otherBytes(check);
+        everyByte(check);
         blanks(check);
         clauses(check);
         tests(check);
@@ -131,6 +132,29 @@ public final class EdgesTermsTwoTest {
         fault(check, "bars" + (char) 127, 4);
         fault(check, "bars" + (char) 128, 4);
         fault(check, "bars" + (char) 255, 4);
+    }
+
+    private static void everyByte(Check check) {
+        check.of(PART, "the first TOKEN that can't go on there (the end's: the TEXT's length)");
+        for (char sign = 0; sign < 256; sign++) {
+            boolean digit = sign >= '0' && sign <= '9';
+            boolean joins = "+-*/%".indexOf(sign) >= 0;
+            faultOf(check, false, "" + sign, sign == ' ' ? 1 : 0);
+            faultOf(check, false, "pays " + sign, digit ? -1 : sign == ' ' || sign == '[' ? 6 : 5);
+            faultOf(check, false, "pays 1" + sign, digit || sign == ' ' ? -1 : joins || sign == ';' ? 7 : 6);
+            faultOf(check, false, "bars if 1" + sign + "1",
+                "<>=".indexOf(sign) >= 0 ? -1 : digit || joins ? 11 : sign == ' ' ? 10 : 9);
+            faultOf(check, true, "pass times " + sign, digit && sign != '0' ? -1 : sign == ' ' ? 12 : 11);
+            faultOf(check, true, "pass if hunger " + sign + "=1", sign >= '0' && sign <= '5' ? -1 : sign == ' ' ? 16 : 15);
+            faultOf(check, true, "pass if meat " + sign + "=1", sign >= '0' && sign <= '3' ? -1 : sign == ' ' ? 14 : 13);
+        }
+    }
+
+    private static void faultOf(Check check, boolean orders, String text, int place) {
+        TamerState x = new TamerState();
+        int answer = orders ? Check.orders(x, text) : Check.law(x, text);
+        check.due("\"" + text + "\" is read", answer == -6 ? 0 : 1, place < 0 ? 1 : 0);
+        check.due("the fault of \"" + text + "\"", x.fault(), place);
     }
 
     private static void blanks(Check check) {

@@ -51,7 +51,7 @@ public final class ReadmeTest {
         check.same("lines of code that tell no answer", page.strange.toString(), "[]");
         Set<String> shown = new TreeSet<>();
         page.shown.forEach(s -> shown.add(s.name()));
-        shown.remove("write");
+        shown.remove("write"); // the page's own helper
         check.same("what is shown with its answer", shown.toString(), face().keySet().toString());
         for (Readme.Shown call : page.shown) {
             check.holds("each answer is in the program: " + call, page.program().contains(call.checked()));
